@@ -1,7 +1,9 @@
 import java.lang.reflect.InvocationTargetException;
 import java.lang.reflect.Method;
 import java.util.ArrayList;
+import java.util.HashMap;
 import java.util.List;
+import java.util.Map;
 import java.util.Random;
 
 /** Runs of random calls, by fixed seeds, on OwedDays and on Twin: every answer must be alike. */
@@ -10,7 +12,18 @@ public final class TwinTest {
     private static final int CALLS = 512;
     private static final int TEXTS = 30000;
     private static final int SHOWN = 20;
+    /** What each int of a call is: see Run.number; a digit is for how many there are. */
+    private static final Map<String, String> ROLES = new HashMap<>();
     private static int wrong = 0;
+
+    static {
+        String roles = "feed fffff,end z,fault 2,text 2,rule 3,stretch s5,house h5,law l,haul hs,does hsk,work hsk,pay hd,"
+                + "ditch s,seasons n,years n,status 5,log i3,least sw2,way pp2,worth h,game hhskk2,rests hhsi,road h,shares hc,"
+                + "seen b,feigned ki,honest k,best k,whose se,fails 2,odds sox,toll t2,neighbours s,count 0";
+        for (String role : roles.split(",")) {
+            ROLES.put(role.split(" ")[0], role.split(" ")[1]);
+        }
+    }
 
     public static void main(String[] args) throws Exception {
         for (int seed = 0; seed < RUNS && wrong < SHOWN; seed++) {
@@ -74,7 +87,7 @@ public final class TwinTest {
                 } else if (turn < 5) {
                     call(named("law"), new Object[] {random.nextInt(6) - 1});
                 } else if (turn < 12) {
-                    call(named("work"), new Object[] {random.nextInt(6), random.nextInt(9), random.nextInt(4)});
+                    call(named("work"), args(named("work")));
                 } else if (goesFar && turn < 36) {
                     call(named(random.nextInt(4) == 0 ? "years" : "seasons"), new Object[] {40 + random.nextInt(21), (long) random.nextInt()});
                 } else {
@@ -112,53 +125,69 @@ public final class TwinTest {
                 } else if (types[i] == long.class) {
                     args[i] = random.nextLong();
                 } else {
-                    args[i] = number(method.getName(), i);
+                    args[i] = number(ROLES.get(method.getName()).charAt(i));
                 }
             }
             return args;
         }
 
-        private int number(String name, int i) {
-            int luck = random.nextInt(60);
+        /** Mostly a number that there is, at times one beside the bounds, seldom any at all. */
+        private int number(char role) {
+            int luck = random.nextInt(40);
             if (luck == 0) {
                 return random.nextInt();
             }
             if (luck == 1) {
                 return new int[] {Integer.MIN_VALUE, Integer.MAX_VALUE, -2, -1, 1000, 100, 101, 41, 61, 64}[random.nextInt(10)];
             }
-            switch (name) {
-                case "shares":
-                    return i == 1 ? random.nextInt(1010) - 3 : random.nextInt(8) - 1;
-                case "least":
-                    return i == 1 ? random.nextInt(105) - 2 : random.nextInt(i == 2 ? 3 : 9);
-                case "odds":
-                    return i == 0 ? random.nextInt(9) : i == 1 ? random.nextInt(43) : random.nextInt(103);
-                case "whose":
-                    return i == 1 ? random.nextInt(30) - 1 : random.nextInt(9);
-                case "seen":
-                    return random.nextInt(random.nextBoolean() ? 8 : 66);
-                case "count":
-                    return random.nextInt(16) - 1;
-                case "log":
-                    return i == 0 ? random.nextInt(63) - 1 : random.nextInt(5) - 1;
-                case "way":
-                    return random.nextInt(i == 2 ? 2 : 9);
-                case "toll":
-                    return random.nextInt(i == 0 ? 11 : 3);
-                case "end":
-                    return random.nextInt(50) - 1;
-                case "seasons":
-                case "years":
-                    return random.nextInt(10) == 0 ? random.nextInt(63) : random.nextInt(6);
-                case "fails":
-                    return random.nextInt(2);
-                case "game":
-                    return i < 2 ? random.nextInt(6) : i == 2 ? random.nextInt(9) : random.nextInt(4);
-                case "rests":
-                    return i == 3 ? random.nextInt(5) - 1 : random.nextInt(6);
+            switch (role) {
+                case 'h':
+                    return near(0, one.count(1) - 1);
+                case 's':
+                    return near(0, one.count(0) - 1);
+                case 'p':
+                    return near(0, 7);
+                case 'k':
+                    return near(0, 3);
+                case 'w':
+                    return near(0, 99);
+                case 'e':
+                    return random.nextInt(4) == 0 ? near(0, 99) : near(0, 12);
+                case 'c':
+                    return near(0, 999);
+                case 'n':
+                    return random.nextInt(10) == 0 ? near(1, 60) : near(1, 5);
+                case 'b':
+                    return near(1, (1 << one.count(1)) - 1);
+                case 'i':
+                    return near(-1, random.nextBoolean() ? 3 : 60);
+                case 'o':
+                    return near(0, random.nextBoolean() ? 6 : 40);
+                case 'x':
+                    return near(0, 100);
+                case 't':
+                    return near(1, 9);
+                case 'd':
+                    return near(1, random.nextBoolean() ? 2 : 9);
+                case 'l':
+                    return near(-1, one.count(2) - 1);
+                case 'z':
+                    return near(0, random.nextBoolean() ? 0 : 60);
+                case 'f':
+                    return random.nextInt(3) == 0 ? random.nextInt() : 0;
+                case '0':
+                    return near(0, 13);
                 default:
-                    return random.nextInt(11) - 1;
+                    return near(0, role - '1');
             }
+        }
+
+        private int near(int low, int high) {
+            int beside = random.nextInt(16);
+            if (beside == 0 || high < low) {
+                return low - 1;
+            }
+            return beside == 1 ? high + 1 : low + random.nextInt(high - low + 1);
         }
 
         private void call(Method method, Object[] given) throws Exception {
