@@ -150,6 +150,15 @@ public final class PromisesTest {
         is("one more", x.feed(0, 0, 0, 0, 1), 240);
         is("none more", x.feed(0, 0, 0, 0, 0), 240);
         is("one too many", x.feed(0, 0, 0, 0, 1), NONE);
+        is("one too many", x.feed(1, 0, 0, 0, 0), NONE);
+        for (int zero = 0; zero < 5; zero++) {
+            int[] five = {-1, -1, -1, -1, -1};
+            five[zero] = 0xFF00FFFF;
+            x.end(222);
+            is("nineteen behind 222", x.feed(five[0], five[1], five[2], five[3], five[4]), NONE);
+            x.end(221);
+            is("nineteen behind 221", x.feed(five[0], five[1], five[2], five[3], five[4]), 240);
+        }
     }
 
     private static void end() {
@@ -224,6 +233,7 @@ public final class PromisesTest {
         wrongAt(0, "sd10;r;h", 3);
         wrongAt(0, "sf10;r;h", 3);
         wrongAt(0, "sp99;r;h", 3);
+        wrongAt(0, "sp10;r;h", 3);
         wrongAt(0, "sp9 9;r;h", 4);
         wrongAt(0, "ra8;h", 2);
         wrongAt(0, "ra08;h", 3);
@@ -489,6 +499,12 @@ public final class PromisesTest {
         worthIs("y:9999*9999/1000/100", 10);
         worthIs("y:[0-9999]*9999/1000/100+50", 40);
         worthIs("y:[0-9999*9999-9999*9999]/9999/10+20", 10);
+        worthIs("y:9999*9999-9999*100-50", 50);
+        worthIs("y:1000*1000-9999*100-50", 50);
+        worthIs("y:9999*100+9999-9999*100-51", 49);
+        worthIs("y:0-9999*9999-1+9999*100+150", 50);
+        worthIs("y:[0-9999]*9999+9999*100+150", 50);
+        worthIs("y:9999*9999+9999*9999-9999*100-50", 50);
         worthIs("y:q=4?11", 11);
         worthIs("y:q<4?11", 0);
         worthIs("y:q>4?11", 0);
@@ -953,6 +969,10 @@ public final class PromisesTest {
         is("no such place", x.way(0, 8, 0), NONE);
         is("no such place", x.way(-1, 0, 0), NONE);
         is("no such place", x.way(8, 8, 0), NONE);
+        is("no such place", x.way(8, 0, 0), NONE);
+        is("no such place", x.way(8, 0, 1), NONE);
+        is("no such place", x.way(0, -1, 0), NONE);
+        is("no such place", x.way(-1, -1, 0), NONE);
         is("no such what", x.way(0, 1, 2), NONE);
         is("no such what", x.way(0, 1, -1), NONE);
         is("no parish", new OwedDays().way(0, 0, 0), NONE);
@@ -1156,6 +1176,16 @@ public final class PromisesTest {
         x.seen(1, false);
         // Fits for 2: {0,1}, {0,2}, {0,3}: 0 is 3 apart, the others 1.
         is("not who is sure", x.best(2), 1);
+        x = parish("r;h;h;h;h");
+        x.seen(1, true);
+        // Fits for 2: {1,2}, {1,3}, {2,3}: 0 is 3 apart, the others 1.
+        is("nor who surely did not", x.best(2), 1);
+        is("three of four", x.best(3), 0);
+        x = parish("r;h;h;h;h;h");
+        x.seen(3, false);
+        x.seen(4, true);
+        // Fits for 3: {0,1,3}, {0,1,4}.
+        is("of 3 and 4 the lower", x.best(3), 3);
     }
 
     private static void whose() {
@@ -1193,8 +1223,12 @@ public final class PromisesTest {
         x = parish("sf1;rw48u0e0;h");
         is("not in 200", x.fails(1), NONE);
         is("nor which", x.fails(0), NONE);
+        x.seasons(3);
+        // In winter now: 49 behind one season, 99 fifty winters later.
+        is("in 201", x.fails(1), NONE);
+        is("in 201", x.fails(0), NONE);
         x.seasons(1);
-        is("a winter sooner", x.fails(1), NONE);
+        is("in 200 again", x.fails(1), 200);
         x = parish("sf9;rw81u0e9;ra1b2w81u0e9;h");
         is("winter from now", x.fails(1), 4);
         x.seasons(3);
