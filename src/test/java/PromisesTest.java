@@ -748,6 +748,11 @@ public final class PromisesTest {
             is("all undone", x.count(7), 180);
             is("and owed", x.house(0, 3), 6);
         }
+        drawsInOrder();
+        boundsOfYears();
+    }
+
+    private static void drawsInOrder() {
         for (long seed = 0; seed < 20; seed++) {
             OwedDays x = parish("sd1;rw90u0;rw90u0;hq1;hc2;hq9;hq8z0");
             x.pay(0, 1);
@@ -765,6 +770,9 @@ public final class PromisesTest {
             is("stretch 0 by seed " + seed, x.stretch(0, 2), wear[0]);
             is("stretch 1 by seed " + seed, x.stretch(1, 2), wear[1]);
         }
+    }
+
+    private static void boundsOfYears() {
         OwedDays x = parish("sd1;rw50u0;hq1z9;hc2;hq2z9");
         x.pay(0, 1);
         is("three seasons", x.years(3, 5), 3);
