@@ -1,15 +1,8 @@
 import java.math.BigInteger;
-import java.util.NoSuchElementException;
 
 /** Every promise of the document by hand: ordinary inputs, edges, wrong inputs. */
-public final class PromisesTest {
-    private static final int NONE = -1;
-    private static final int HIDDEN = -1000000;
+public final class PromisesTest extends Checks {
     private static final String TOWN = "sd2f1p3;rw30u4;ra1b2w50e3;ra2b3w10u9;rb2w20;hq5;hc3q2z9;hc7";
-
-    private static int promise = 0;
-    private static int checks = 0;
-    private static int wrong = 0;
 
     public static void main(String[] args) {
         aNewObject();
@@ -59,60 +52,11 @@ public final class PromisesTest {
         image();
         back();
         count();
-        System.out.println(checks + " checks, " + wrong + " wrong");
-        if (wrong != 0) {
-            System.exit(1);
-        }
-    }
-
-    private static void is(String what, long got, long due) {
-        checks++;
-        if (got != due) {
-            wrong++;
-            System.out.println("promise " + promise + ": " + what + " answered " + got + ", due is " + due);
-        }
-    }
-
-    private static void is(String what, boolean got, boolean due) {
-        is(what, got ? 1 : 0, due ? 1 : 0);
-    }
-
-    private static void tell(OwedDays x, String text) {
-        for (int[] five : Texts.fives(text)) {
-            x.feed(five[0], five[1], five[2], five[3], five[4]);
-        }
-    }
-
-    private static OwedDays parish(String text) {
-        OwedDays x = new OwedDays();
-        tell(x, text);
-        if (x.text(0) == NONE) {
-            throw new IllegalStateException(text);
-        }
-        return x;
-    }
-
-    /** A parish under a law that holds. */
-    private static OwedDays parish(String text, String law) {
-        OwedDays x = parish(text);
-        tell(x, law);
-        if (!x.law(x.text(1)) || x.count(4) == NONE) {
-            throw new IllegalStateException(law);
-        }
-        return x;
-    }
-
-    private static int thrown(OwedDays x, int house, int what) {
-        try {
-            x.house(house, what);
-            return 0;
-        } catch (NoSuchElementException e) {
-            return 1;
-        }
+        tellAndExit();
     }
 
     private static void aNewObject() {
-        promise = 1;
+        about("promise 1");
         OwedDays x = new OwedDays();
         for (int what = 0; what < 14; what++) {
             is("count(" + what + ")", x.count(what), what == 4 ? NONE : 0);
@@ -129,7 +73,7 @@ public final class PromisesTest {
     }
 
     private static void feed() {
-        promise = 2;
+        about("promise 2");
         OwedDays x = new OwedDays();
         is("all zero", x.feed(0, 0, 0, 0, 0), 0);
         is("zeros left out", x.feed(0x72003B00, 0, 0x00000068, 0, 0), 3);
@@ -162,7 +106,7 @@ public final class PromisesTest {
     }
 
     private static void end() {
-        promise = 3;
+        about("promise 3");
         OwedDays x = new OwedDays();
         is("end(0) of nothing", x.end(0), true);
         is("end(1) of nothing", x.end(1), false);
@@ -190,7 +134,7 @@ public final class PromisesTest {
     }
 
     private static void faultOfParish() {
-        promise = 4;
+        about("promise 4");
         is("no such sort", new OwedDays().fault(2), -2);
         is("no such sort", new OwedDays().fault(-1), -2);
         String[] good = {"r;h", "h;r", "s;r;h", "r;s;h", "r;h;s", " r ; h ", "rw0;h", "rw99;h", "rw09;h", "sd1f0p0;r;h",
@@ -270,7 +214,7 @@ public final class PromisesTest {
     }
 
     private static void faultOfLaw() {
-        promise = 4;
+        about("promise 4");
         String[] good = {"y:1", "y:9999", "y:0000", "y:q", "y:q+z-h*w/e+s", "y:[q]", "y:[q+1]*2", "y:q=1?1", "y:q<1?z", "y:q>1?z",
             "y:q;y:1", "y:q=1?2;y:3;y:4", "y:(q=1)?2", "y:!q=1?2", "y:!(q=1)?2", "y:!!q=1?2", "y:q=1&z<2|h>3?1",
             "y:(q=1|z=2)&!(h=3)?1", "y:[q]=1?2", "y:q+1=z*[2-h]?3", " y : q + 1 ", " y:! ( q = 1 ) ? 2 ; y : 3 ", "y:!!!!!!q=1?1",
@@ -331,7 +275,7 @@ public final class PromisesTest {
     }
 
     private static void text() {
-        promise = 5;
+        about("promise 5");
         OwedDays x = new OwedDays();
         is("nothing told", x.text(0), NONE);
         tell(x, "r;r;h");
@@ -358,7 +302,7 @@ public final class PromisesTest {
     }
 
     private static void newParish() {
-        promise = 5;
+        about("promise 5");
         OwedDays x = parish("sd5p9;rw50;rb2;h;h", "y:7");
         x.work(0, 0, 2);
         x.work(9, 0, 0);
@@ -386,7 +330,7 @@ public final class PromisesTest {
     }
 
     private static void rule() {
-        promise = 6;
+        about("promise 6");
         OwedDays x = parish("sp8d7f0;r;h");
         is("days", x.rule(0), 7);
         is("frost", x.rule(1), 0);
@@ -406,7 +350,7 @@ public final class PromisesTest {
     }
 
     private static void stretch() {
-        promise = 7;
+        about("promise 7");
         OwedDays x = parish("h;ra4b7w88e9u1;r;sp9");
         int[][] due = {{4, 7, 88, 9, 1}, {0, 1, 20, 2, 3}};
         for (int s = 0; s < 2; s++) {
@@ -426,7 +370,7 @@ public final class PromisesTest {
     }
 
     private static void house() {
-        promise = 8;
+        about("promise 8");
         OwedDays x = parish("sd4;r;hc7q9z0;h");
         int[][] due = {{7, 9, 0, 4, 0}, {0, 3, 5, 4, 0}};
         for (int h = 0; h < 2; h++) {
@@ -447,7 +391,7 @@ public final class PromisesTest {
     }
 
     private static void law() {
-        promise = 9;
+        about("promise 9");
         OwedDays x = parish("r;h");
         is("no law yet", x.law(0), false);
         tell(x, "y:11");
@@ -476,7 +420,7 @@ public final class PromisesTest {
     }
 
     private static void worthOfLaws() {
-        promise = 11;
+        about("promise 11");
         worthIs("y:q", 4);
         worthIs("y:z", 9);
         worthIs("y:h", 1);
@@ -532,7 +476,7 @@ public final class PromisesTest {
     }
 
     private static void haul() {
-        promise = 10;
+        about("promise 10");
         OwedDays x = parish("ra0b1;ra1b2;ra2b3;ra0b3;ra5b6;h;hc2;hc6;hc7");
         int[][] due = {{0, 1, 1, 0, NONE}, {1, 0, 0, 1, NONE}, {NONE, NONE, NONE, NONE, 0}, {NONE, NONE, NONE, NONE, NONE}};
         for (int h = 0; h < 4; h++) {
@@ -550,7 +494,7 @@ public final class PromisesTest {
     }
 
     private static void does() {
-        promise = 11;
+        about("promise 11");
         OwedDays x = parish(TOWN);
         is("its own", x.does(0, 0, 0), 10);
         is("less haul", x.does(0, 1, 0), 9);
@@ -584,7 +528,7 @@ public final class PromisesTest {
     }
 
     private static void work() {
-        promise = 12;
+        about("promise 12");
         OwedDays x = parish(TOWN);
         is("its own", x.work(0, 1, 0), 41);
         is("owes less", x.house(0, 3), 1);
@@ -617,7 +561,7 @@ public final class PromisesTest {
     }
 
     private static void pay() {
-        promise = 13;
+        about("promise 13");
         OwedDays x = parish("sd9p4;r;h;h");
         is("two", x.pay(0, 2), 8);
         is("seven", x.pay(0, 7), 36);
@@ -639,7 +583,7 @@ public final class PromisesTest {
     }
 
     private static void ditch() {
-        promise = 14;
+        about("promise 14");
         OwedDays x = parish("sp2;ra1b2e1;ra2b3e9;ra4b2e8;rb1;ra2b1e0;h");
         is("an empty box", x.ditch(0), NONE);
         is("status 3", x.status(3), 1);
@@ -665,7 +609,7 @@ public final class PromisesTest {
     }
 
     private static void seasons() {
-        promise = 15;
+        about("promise 15");
         OwedDays x = parish("sd3f4;rw10e5u2;ra1b2w95u1e0;h");
         is("one", x.seasons(1), 1);
         is("use", x.stretch(0, 2), 12);
@@ -691,7 +635,7 @@ public final class PromisesTest {
     }
 
     private static void lastSeason() {
-        promise = 15;
+        about("promise 15");
         OwedDays x = parish("sd9;rw0u0e0;h");
         for (int i = 1; i <= 66; i++) {
             is("sixty", x.seasons(60), 60 * i);
@@ -731,7 +675,7 @@ public final class PromisesTest {
     }
 
     private static void years() {
-        promise = 16;
+        about("promise 16");
         for (long seed : new long[] {0, 1, -1, 7, 12345678901234L, Long.MIN_VALUE}) {
             OwedDays x = parish("rw50u0;ra1b2w60u0;ra5b6w70u0;hq9z5");
             Draws draws = new Draws(seed);
@@ -797,7 +741,7 @@ public final class PromisesTest {
     }
 
     private static void status() {
-        promise = 17;
+        about("promise 17");
         OwedDays x = parish("r;h");
         x.work(1, 0, 0);
         x.pay(0, 10);
@@ -825,7 +769,7 @@ public final class PromisesTest {
     }
 
     private static void undo() {
-        promise = 18;
+        about("promise 18");
         OwedDays x = parish("sp5;rw50e4u9;ra1b2e8;hq5;h");
         is("none", x.undo(), NONE);
         x.work(0, 0, 2);
@@ -867,7 +811,7 @@ public final class PromisesTest {
     }
 
     private static void log() {
-        promise = 19;
+        about("promise 19");
         OwedDays x = parish("sf0;rw58u1e0;ra1b2w60u1e0;hq1");
         x.work(0, 0, 3);
         x.work(0, 0, 3);
@@ -911,7 +855,7 @@ public final class PromisesTest {
     }
 
     private static void least() {
-        promise = 20;
+        about("promise 20");
         OwedDays x = parish(TOWN);
         is("two days", x.least(1, 35, 0), 2);
         is("by 0 and 0", x.least(1, 35, 1), 0);
@@ -950,7 +894,7 @@ public final class PromisesTest {
     }
 
     private static void leastByLaw() {
-        promise = 20;
+        about("promise 20");
         // House 0 halves what there is, house 1 takes 20 off above 40: who comes first matters.
         OwedDays x = parish("sd2;rw80;hq1;hq2", "y:q=1?w/2;y:w>40?20");
         is("to 20", x.least(0, 20, 0), 2);
@@ -966,7 +910,7 @@ public final class PromisesTest {
     }
 
     private static void way() {
-        promise = 21;
+        about("promise 21");
         OwedDays x = parish(TOWN);
         is("by wear, not by steps", x.way(3, 0, 0), 30);
         is("stretches", x.way(3, 0, 1), 12);
@@ -998,7 +942,7 @@ public final class PromisesTest {
     }
 
     private static void worth() {
-        promise = 22;
+        about("promise 22");
         OwedDays x = parish(TOWN);
         is("house 0", x.worth(0), 0);
         is("house 1", x.worth(1), 2);
@@ -1012,7 +956,7 @@ public final class PromisesTest {
     }
 
     private static void buys() {
-        promise = 23;
+        about("promise 23");
         is("no parish", new OwedDays().buys(), NONE);
         is("less than 8, and who comes nowhere", parish(TOWN).buys(), 6);
         OwedDays x = parish("r;hq4;hq3;hq5;hc1q3;hc3q9");
@@ -1026,7 +970,7 @@ public final class PromisesTest {
     }
 
     private static void game() {
-        promise = 24;
+        about("promise 24");
         OwedDays x = parish(TOWN);
         is("both their own, the one", x.game(0, 1, 2, 0, 0, 0), 2);
         is("both their own, the other", x.game(0, 1, 2, 0, 0, 1), 2);
@@ -1057,7 +1001,7 @@ public final class PromisesTest {
     }
 
     private static void rests() {
-        promise = 25;
+        about("promise 25");
         OwedDays x = parish(TOWN);
         is("how many", x.rests(0, 1, 2, NONE), 3);
         is("first", x.rests(0, 1, 2, 0), 3);
@@ -1079,7 +1023,7 @@ public final class PromisesTest {
     }
 
     private static void road() {
-        promise = 26;
+        about("promise 26");
         OwedDays x = parish(TOWN);
         is("at 0", x.road(0), 0);
         is("from 3", x.road(1), 12);
@@ -1093,7 +1037,7 @@ public final class PromisesTest {
     }
 
     private static void shares() {
-        promise = 27;
+        about("promise 27");
         OwedDays x = parish("ru5;ra1b2u2;ra5b6u9;hc1;hc2;h;hc5");
         is("5 of 12", x.shares(0, 100), 41);
         is("7 of 12", x.shares(1, 100), 58);
@@ -1109,7 +1053,7 @@ public final class PromisesTest {
     }
 
     private static void seen() {
-        promise = 28;
+        about("promise 28");
         is("no parish", new OwedDays().seen(1, true), NONE);
         OwedDays x = parish("r;h;h;h");
         is("none", x.seen(0, true), NONE);
@@ -1125,7 +1069,7 @@ public final class PromisesTest {
     }
 
     private static void feigned() {
-        promise = 29;
+        about("promise 29");
         OwedDays x = parish("r;h;h;h;h");
         is("no parish", new OwedDays().feigned(0, NONE), NONE);
         int[] all = {1, 4, 6, 4};
@@ -1153,7 +1097,7 @@ public final class PromisesTest {
     }
 
     private static void honest() {
-        promise = 30;
+        about("promise 30");
         OwedDays x = parish("r;h;h;h;h");
         is("no parish", new OwedDays().honest(1), NONE);
         is("of none", x.honest(0), 15);
@@ -1169,7 +1113,7 @@ public final class PromisesTest {
     }
 
     private static void best() {
-        promise = 31;
+        about("promise 31");
         OwedDays x = parish("r;h;h;h;h");
         is("no parish", new OwedDays().best(1), NONE);
         is("all alike", x.best(2), 0);
@@ -1197,7 +1141,7 @@ public final class PromisesTest {
     }
 
     private static void whose() {
-        promise = 32;
+        about("promise 32");
         OwedDays x = parish(TOWN);
         is("a boy's of 0", x.whose(0, 5), 1);
         is("a boy's of 0, 1's own", x.whose(2, 4), 3);
@@ -1213,7 +1157,7 @@ public final class PromisesTest {
     }
 
     private static void fails() {
-        promise = 33;
+        about("promise 33");
         is("no parish", new OwedDays().fails(0), NONE);
         OwedDays x = parish(TOWN);
         is("which", x.fails(0), 2);
@@ -1245,7 +1189,7 @@ public final class PromisesTest {
     }
 
     private static void odds() {
-        promise = 34;
+        about("promise 34");
         OwedDays x = parish(TOWN);
         is("half and half", x.odds(1, 2, 50), 750000000);
         is("none yet", x.odds(1, 0, 50), 0);
@@ -1287,7 +1231,7 @@ public final class PromisesTest {
     }
 
     private static void toll() {
-        promise = 35;
+        about("promise 35");
         is("no parish", new OwedDays().toll(1, 0), NONE);
         OwedDays x = parish("ru5;ra1b2u2;ra5b6u9;hc1;hc2;hc2;h;hc5");
         is("the lowest of those", x.toll(1, 0), 1);
@@ -1303,7 +1247,7 @@ public final class PromisesTest {
     }
 
     private static void worst() {
-        promise = 36;
+        about("promise 36");
         is("no parish", new OwedDays().worst(), NONE);
         OwedDays x = parish("rw5;rw30u0e0;rw30u0e0;rw29u2;h");
         is("the lowest of those", x.worst(), 1);
@@ -1313,7 +1257,7 @@ public final class PromisesTest {
     }
 
     private static void ends() {
-        promise = 37;
+        about("promise 37");
         is("no parish", new OwedDays().ends(), NONE);
         is("place 3", parish(TOWN).ends(), 8);
         is("both", parish("ra6b7;h").ends(), 192);
@@ -1321,7 +1265,7 @@ public final class PromisesTest {
     }
 
     private static void cut() {
-        promise = 38;
+        about("promise 38");
         is("no parish", new OwedDays().cut(), NONE);
         is("stretch 2", parish(TOWN).cut(), 4);
         is("each on a line", parish("r;ra1b2;ra2b3;h").cut(), 7);
@@ -1331,7 +1275,7 @@ public final class PromisesTest {
     }
 
     private static void neighbours() {
-        promise = 39;
+        about("promise 39");
         OwedDays x = parish(TOWN);
         is("of 0", x.neighbours(0), 10);
         is("of 2", x.neighbours(2), 10);
@@ -1343,7 +1287,7 @@ public final class PromisesTest {
     }
 
     private static void image() {
-        promise = 40;
+        about("promise 40");
         is("no parish", new OwedDays().image(), NONE);
         OwedDays x = parish(TOWN);
         is("the season", x.image(), 0);
@@ -1355,7 +1299,7 @@ public final class PromisesTest {
     }
 
     private static void back() {
-        promise = 41;
+        about("promise 41");
         is("no parish", new OwedDays().back(), NONE);
         OwedDays x = parish("sp5d3;rw50e4;ra1b2e8;hq5;h");
         is("no image", x.back(), NONE);
@@ -1398,7 +1342,7 @@ public final class PromisesTest {
     }
 
     private static void count() {
-        promise = 42;
+        about("promise 42");
         OwedDays x = parish("sd4;rw30;ra1b2w41;r;h;h", "y:5");
         tell(x, "r;");
         x.work(0, 0, 0);
