@@ -7,6 +7,7 @@ public final class ActBoundsTest extends Checks {
 
     public static void main(String[] args) {
         fewestStretches();
+        byEveryPlace();
         cannotComeThere();
         heldWithin99();
         zeroAtLeastWithoutALaw();
@@ -52,6 +53,8 @@ public final class ActBoundsTest extends Checks {
         imageInsteadOfTheOneAhead();
         imageOfThisParish();
         newParishForgets();
+        smallerParish();
+        fullParish();
         tellAndExit();
     }
 
@@ -76,6 +79,23 @@ public final class ActBoundsTest extends Checks {
         is("to the last one", x.haul(0, 7), 0);
         x = parish("ra1b0w99;ra0b2w0;ra2b1w0;ra1b3;h");
         is("fewest, whatever their wear", x.haul(0, 3), 1);
+    }
+
+    private static void byEveryPlace() {
+        about("HAUL .. on a way (over each PLACE, to each PLACE)");
+        for (int code = 0; code < 8 * 8 * 8 * 8; code++) {
+            int from = code / 512;
+            int by = code / 64 % 8;
+            int to = code / 8 % 8;
+            int end = code % 8;
+            if (Integer.bitCount(1 << from | 1 << by | 1 << to | 1 << end) == 4) {
+                OwedDays x = parish("ra" + from + "b" + by + ";ra" + by + "b" + to + ";ra" + to + "b" + end + ";hc" + from);
+                String way = "from " + from + " by " + by + " and " + to + " to " + end;
+                is("first " + way, x.haul(0, 0), 0);
+                is("second " + way, x.haul(0, 1), 1);
+                is("third " + way, x.haul(0, 2), 2);
+            }
+        }
     }
 
     private static void cannotComeThere() {
@@ -350,13 +370,15 @@ public final class ActBoundsTest extends Checks {
     private static void latestFortyActs() {
         about("the latest 40 can be UNDONE one by one");
         for (int acts = 37; acts <= 43; acts++) {
-            OwedDays x = parish("rw0u1e0;h");
+            OwedDays x = parish("sf0;rw0u1e0;h");
             is("so many", x.seasons(acts), acts);
             int can = Math.min(40, acts);
             is("can be undone of " + acts, x.count(13), can);
             for (int left = can - 1; left >= 0; left--) {
                 is("still can be", x.undo(), left);
                 is("and so it tells", x.count(13), left);
+                is("the season ahead of it", x.count(5), acts - can + left);
+                is("its wear, too", x.stretch(0, 2), acts - can + left);
             }
             is("none", x.undo(), NONE);
             is("none is none again", x.undo(), NONE);
@@ -798,24 +820,35 @@ public final class ActBoundsTest extends Checks {
     private static void logIsUndone() {
         about("UNDONE one by one (LOG, too)");
         for (int seasons : new int[] {1, 40, 59, 60, 61, 99, 100, 101, 139, 140, 141, 200, 240}) {
-            OwedDays x = parish("sd1f0;rw0u0e0;h");
-            // A mark in the log: a day is worked in each first season of a year.
-            for (int season = 0; season < seasons; season++) {
-                if (season % 4 == 0) {
-                    x.work(0, 0, 3);
-                }
-                x.seasons(1);
+            logIsUndoneTo(seasons, 0);
+            // The latest forty acts are seasons, so that as much of the log as can be comes back.
+            logIsUndoneTo(seasons, 40);
+        }
+    }
+
+    /** A day worked in each first season of a year marks the log, but in the bare seasons at the end. */
+    private static void logIsUndoneTo(int seasons, int bare) {
+        OwedDays x = parish("sd1f0;rw0u0e0;h");
+        for (int season = 0; season < seasons; season++) {
+            if (season % 4 == 0 && season < seasons - bare) {
+                x.work(0, 0, 3);
             }
-            int behind = seasons;
-            while (x.undo() != NONE) {
-                behind = x.count(5);
-                is("how long behind " + behind + " of " + seasons, x.count(12), Math.min(60, behind));
-            }
-            int held = Math.min(60, behind);
-            for (int i = 0; i < held; i++) {
-                is("log(" + i + ") behind " + behind + " of " + seasons, x.log(i, 2), (behind - 1 - i) % 4 == 0 ? 1 : 0);
-            }
-            is("no older one", x.log(held, 2), NONE);
+            x.seasons(1);
+        }
+        int behind = seasons;
+        while (x.undo() != NONE) {
+            behind = x.count(5);
+            is("how long behind " + behind + " of " + seasons, x.count(12), Math.min(60, behind));
+        }
+        int held = Math.min(60, behind);
+        for (int i = 0; i < held; i++) {
+            int season = behind - 1 - i;
+            int days = season % 4 == 0 && season < seasons - bare ? 1 : 0;
+            is("log(" + i + ") behind " + behind + " of " + seasons, x.log(i, 2), days);
+        }
+        is("no older one", x.log(held, 2), NONE);
+        if (bare == 40 && seasons >= 40) {
+            is("forty seasons undone", behind, seasons - 40);
         }
     }
 
@@ -1053,5 +1086,131 @@ public final class ActBoundsTest extends Checks {
         is("as in a new object with such a law", Probe.all(x), Probe.all(y));
         is("no act", Probe.acts(x), "");
         is("no image", Probe.image(x), Probe.image(y));
+    }
+
+    private static void smallerParish() {
+        about("promise 5: all that was of another one is gone (nothing of more STRETCHES and HOUSES is left)");
+        String big = "sd1f9p9;ra7b6w99e9u9;ra6b5w99e9u9;ra5b4w99e9u9;ra4b3w99e9u9;ra3b2w99e9u9;ra2b1w99e9u9;ra1b0w99e9u9;ra7b0w99e9u9;"
+            + "ra7b1w99e9u9;hc7q9z9;hc6q9z9;hc5q9z9;hc4q9z9;hc3q9z9;hc2q9z9";
+        for (String small : new String[] {"r;h", "rw60;ra1b2;h;hc2", "ra1b2w9;ra3b4;hc1;hc4;h", "rw99;ra6b7;ra7b1;hc6;h"}) {
+            OwedDays x = parish(big);
+            x.seasons(5);
+            x.pay(5, 1);
+            tell(x, small);
+            x.text(0);
+            OwedDays y = parish(small);
+            is("all of " + small, Probe.all(x), Probe.all(y));
+            is("what would be of " + small, Probe.asks(x), Probe.asks(y));
+            OwedDays z = parish(big);
+            tell(z, small);
+            z.text(0);
+            z.pay(0, 3);
+            z.ditch(0);
+            z.years(9, 9);
+            OwedDays fresh = parish(small);
+            fresh.pay(0, 3);
+            fresh.ditch(0);
+            fresh.years(9, 9);
+            is("years of " + small, Probe.now(z), Probe.now(fresh));
+        }
+    }
+
+    /** Nine STRETCHES, the last with PLACES of its own, and six HOUSES, no two alike. */
+    private static final String FULL = "sd8f2p7;ra0b1w11e1u0;ra1b2w22e2u1;ra2b3w33e3u2;ra3b4w44e4u3;ra4b5w55e5u4;ra5b0w66e6u5;ra2b0w77e7u6;"
+        + "ra3b1w88e8u7;ra6b7w10e9u8;hc0q1z9;hc1q2z8;hc2q3z7;hc6q4z6;hc4q5z5;hc7q6z4";
+
+    /** WEAR, WET of all STRETCHES, then what is owed and DEBT of all HOUSES. */
+    private static int[] changing(OwedDays x) {
+        int[] now = new int[30];
+        for (int s = 0; s < 9; s++) {
+            now[s] = x.stretch(s, 2);
+            now[9 + s] = x.stretch(s, 3);
+        }
+        for (int h = 0; h < 6; h++) {
+            now[18 + h] = x.house(h, 3);
+            now[24 + h] = x.house(h, 4);
+        }
+        return now;
+    }
+
+    private static void fullIs(String what, OwedDays x, int[] due) {
+        is(what, java.util.Arrays.toString(changing(x)), java.util.Arrays.toString(due));
+    }
+
+    private static int[] fullAsTold() {
+        int[] due = new int[30];
+        int[] wear = {11, 22, 33, 44, 55, 66, 77, 88, 10};
+        for (int s = 0; s < 9; s++) {
+            due[s] = wear[s];
+            due[9 + s] = s + 1;
+        }
+        java.util.Arrays.fill(due, 18, 24, 8);
+        return due;
+    }
+
+    private static void fullParish() {
+        about("nine STRETCHES and six HOUSES: each has its own numbers, and no ACT changes another's");
+        OwedDays x = parish(FULL);
+        int[] due = fullAsTold();
+        fullIs("as told", x, due);
+        for (int h = 0; h < 6; h++) {
+            int s = h * 5 % 9;
+            due[s] = Math.max(0, due[s] - 8);
+            due[18 + h]--;
+            is("wear of " + s, x.work(h, s, 2), due[s]);
+            fullIs("house " + h + " worked at " + s, x, due);
+            x.pay(h, h + 1);
+            due[18 + h] -= h + 1;
+            fullIs("house " + h + " paid", x, due);
+        }
+        is("the box", x.count(6), 7 * (6 + 21));
+        ditchesOfFull();
+        seasonsOfFull();
+    }
+
+    private static void seasonsOfFull() {
+        OwedDays x = parish(FULL);
+        int[] due = fullAsTold();
+        for (int h = 0; h < 6; h++) {
+            x.pay(h, h + 1);
+            due[18 + h] -= h + 1;
+        }
+        x.seasons(3);
+        for (int s = 0; s < 9; s++) {
+            due[s] = Math.min(99, due[s] + 3 * s);
+        }
+        fullIs("three seasons", x, due);
+        x.seasons(1);
+        for (int s = 0; s < 9; s++) {
+            due[s] = Math.min(99, due[s] + s + 2 + due[9 + s]);
+        }
+        for (int h = 0; h < 6; h++) {
+            due[24 + h] = due[18 + h];
+            due[18 + h] = 8;
+        }
+        fullIs("spring", x, due);
+        is("debt of all", x.count(9), 48 - 21);
+        is("owed by all", x.count(8), 48);
+    }
+
+    private static void ditchesOfFull() {
+        OwedDays x = parish(FULL);
+        int[] due = fullAsTold();
+        for (int h = 0; h < 6; h++) {
+            x.pay(h, 1);
+            due[18 + h]--;
+        }
+        int[][] places = {{0, 1}, {1, 2}, {2, 3}, {3, 4}, {4, 5}, {5, 0}, {2, 0}, {3, 1}, {6, 7}};
+        for (int s = 0; s < 9; s++) {
+            due[9 + s]--;
+            for (int other = 0; other < 9; other++) {
+                boolean shares = places[other][0] == places[s][1] || places[other][1] == places[s][1];
+                if (other != s && shares && due[9 + other] < 9) {
+                    due[9 + other]++;
+                }
+            }
+            is("wet of " + s, x.ditch(s), due[9 + s]);
+            fullIs("ditched " + s, x, due);
+        }
     }
 }

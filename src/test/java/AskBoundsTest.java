@@ -10,6 +10,8 @@ public final class AskBoundsTest extends Checks {
         leastByWhatIsOwed();
         leastRowOfSeveral();
         leastByWhoCanCome();
+        leastOfAllRows();
+        leastOnceMore();
         wayToItself();
         wayOfLeastWear();
         wayOfSeveral();
@@ -38,6 +40,7 @@ public final class AskBoundsTest extends Checks {
         oddsBounds();
         oddsFrom60();
         oddsCut();
+        oddsFromZero();
         odds99AtMost();
         tollBounds();
         tollOfSeveral();
@@ -47,6 +50,7 @@ public final class AskBoundsTest extends Checks {
         owedByAll();
         neighboursOfNone();
         counts();
+        askedOfNine();
         tellAndExit();
     }
 
@@ -152,6 +156,97 @@ public final class AskBoundsTest extends Checks {
         is("no more", x.least(0, 29, 0), NONE);
         x.seasons(1);
         is("in spring again", x.least(0, 0, 0), 6);
+    }
+
+    private static void leastOfAllRows() {
+        about("LEAST: the fewest days, of several rows the least (all rows tried)");
+        String[] laws = {"y:q", "y:q*q", "y:w/q", "y:q=w/q?9;y:w/9", "y:w>60?q;y:w>30?20-q*2;y:3", "y:99-w", "y:q=9?1;y:w=98?60;y:w/3"};
+        String[] carts = {"hq9;hq1;hq8;hq2;hq7;hq3", "hq1;hq2;hq3;hq4;hq5;hq6", "hq5;hq5;hq4;hq4;hq9;hq9"};
+        for (String law : laws) {
+            for (String houses : carts) {
+                for (int days : new int[] {1, 2, 9}) {
+                    OwedDays x = parish("sd" + days + ";rw99;" + houses, law);
+                    for (int n = 0; n < 99; n += 7) {
+                        leastIsOfAllRows(x, law, houses, days, n);
+                    }
+                }
+            }
+        }
+    }
+
+    private static void leastOnceMore() {
+        about("LEAST .. from as it is now (nothing is left of what was asked before)");
+        OwedDays x = parish("sf0;rw97u1e0;ra4b5w97;h;h", "y:w=98?98");
+        x.pay(0, 6);
+        is("at 97 nothing helps", x.least(0, 0, 0), NONE);
+        is("far away nothing helps", x.least(1, 0, 0), NONE);
+        x.seasons(1);
+        is("at 98 one day does", x.least(0, 0, 0), 1);
+        is("of house 1", x.least(0, 0, 1), 1);
+        is("far away nothing helps", x.least(1, 0, 0), NONE);
+        x.undo();
+        is("at 97 nothing helps", x.least(0, 0, 0), NONE);
+        x.undo();
+        x.seasons(1);
+        is("of house 0", x.least(0, 0, 1), 0);
+        x.seasons(1);
+        is("at 99 nothing helps", x.least(0, 0, 0), NONE);
+    }
+
+    private static void leastIsOfAllRows(OwedDays x, String law, String houses, int days, int n) {
+        int[] carts = new int[6];
+        for (int h = 0; h < 6; h++) {
+            carts[h] = houses.charAt(4 * h + 2) - '0';
+        }
+        int due = NONE;
+        int length = -1;
+        while (due == NONE && length < 6) {
+            length++;
+            due = firstRow(law, carts, new int[6], days, length, 99, n, 0);
+        }
+        String what = law + " by " + houses + " with " + days + " to " + n;
+        is("days of " + what, x.least(0, n, 0), due == NONE ? NONE : length);
+        is("the row of " + what, x.least(0, n, 1), due);
+    }
+
+    private static int firstRow(String law, int[] carts, int[] worked, int owed, int length, int wear, int n, int row) {
+        if (wear <= n) {
+            return length == 0 ? row : NONE;
+        }
+        for (int h = 0; h < 6 && length > 0; h++) {
+            if (worked[h] < owed) {
+                worked[h]++;
+                int left = Math.max(0, wear - byLaw(law, carts[h], wear));
+                int found = firstRow(law, carts, worked, owed, length - 1, left, n, 10 * row + h);
+                worked[h]--;
+                if (found != NONE) {
+                    return found;
+                }
+            }
+        }
+        return NONE;
+    }
+
+    /** The laws of leastOfAllRows told as Java. */
+    private static int byLaw(String law, int q, int w) {
+        switch (law) {
+            case "y:q":
+                return q;
+            case "y:q*q":
+                return q * q;
+            case "y:w/q":
+                return w / q;
+            case "y:q=w/q?9;y:w/9":
+                return q == w / q ? 9 : w / 9;
+            case "y:w>60?q;y:w>30?20-q*2;y:3":
+                return w > 60 ? q : w > 30 ? Math.max(0, 20 - q * 2) : 3;
+            case "y:99-w":
+                return 99 - w;
+            case "y:q=9?1;y:w=98?60;y:w/3":
+                return q == 9 ? 1 : w == 98 ? 60 : w / 3;
+            default:
+                throw new IllegalStateException(law);
+        }
     }
 
     private static void wayToItself() {
@@ -748,6 +843,17 @@ public final class AskBoundsTest extends Checks {
         return bad;
     }
 
+    private static void oddsFromZero() {
+        about("ODDS from WEAR 0");
+        OwedDays x = parish("sf0;rw0u9e0;ra1b2w0u0e9;h");
+        is("63 by use", x.odds(0, 7, 0), ALL);
+        is("54 by use", x.odds(0, 6, 0), 0);
+        is("63 by wet", x.odds(1, 7, 100), ALL);
+        is("54 by wet", x.odds(1, 6, 100), 0);
+        is("seven of ten", x.odds(1, 10, 50), partsBad(0, 0, 9, 10, 50));
+        is("stays at 0", x.odds(1, 40, 0), 0);
+    }
+
     private static void odds99AtMost() {
         about("ODDS .. 99 at most");
         for (int wear = 70; wear <= 99; wear++) {
@@ -884,5 +990,35 @@ public final class AskBoundsTest extends Checks {
         is("it holds on", x.count(4), 0);
         is("none", x.law(NONE), true);
         is("none holds", x.count(4), NONE);
+    }
+
+    private static void askedOfNine() {
+        about("nine STRETCHES and six HOUSES: no other number is taken for one of theirs");
+        String round = LINE + ";ra7b0w99;ra7b6w99u9";
+        OwedDays x = parish(round + ";hc1;h;h;h;h;h");
+        is("one pays for one", x.toll(1, 1), 3);
+        is("that one", x.toll(1, 0), 0);
+        is("all of it", x.shares(0, 999), 999);
+        is("the last of six", parish(round + ";h;h;h;h;h;hc1q9z9").toll(1, 0), 5);
+        is("the last of six alone", parish(round + ";h;h;h;h;h;hc1q9z9").shares(5, 999), 999);
+        is("cut of nine", parish("r;r;ra1b2;ra2b3;ra3b1;ra3b4;ra4b5;ra5b6;ra6b7;hq7").cut(), 32 + 64 + 128 + 256);
+        is("ends of nine", parish("r;r;ra1b2;ra2b3;ra3b1;ra3b4;ra4b5;ra5b6;ra6b7;hc7q7").ends(), 128);
+        String never = "sf0d9" + ";rw0u0e0".repeat(9) + ";hc7" + ";hq9z9".repeat(5);
+        is("none of nine fails", parish(never).fails(0), NONE);
+        is("none of nine fails", parish(never).fails(1), NONE);
+        is("the first of nine is worst", parish(never).worst(), 0);
+        x = parish("sd1;" + "rw0u0;".repeat(8) + "rw60u0e9;h;h;h;h;h;h", "y:w/2+1");
+        is("the ninth is worst", x.worst(), 8);
+        is("the ninth is worth most", x.worth(5), 8);
+        // 60, 29, 14, 6, 2, 0.
+        is("the ninth by five of six", x.least(8, 0, 0), 5);
+        is("the ninth by five of six", x.least(8, 0, 1), 1234);
+        is("the ninth fails first", x.fails(0), 8);
+        is("bad is the ninth", x.odds(8, 0, 0), ALL);
+        is("the ways", x.way(0, 1, 1), 1);
+        x.work(5, 8, 0);
+        is("its wear", x.stretch(8, 2), 29);
+        x.seasons(1);
+        is("the log of nine", x.log(0, 0), 29);
     }
 }

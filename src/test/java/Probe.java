@@ -60,6 +60,31 @@ public final class Probe {
         return line.toString();
     }
 
+    /** What would be: of a parish with few stretches and houses, so that it takes few calls. */
+    public static String asks(OwedDays x) {
+        StringBuilder line = new StringBuilder();
+        int[] whole = {x.buys(), x.fails(0), x.fails(1), x.toll(9, 0), x.toll(9, 1), x.worst(), x.ends(), x.cut()};
+        line.append(java.util.Arrays.toString(whole));
+        for (int from = 0; from < 8; from++) {
+            for (int to = from; to < 8; to++) {
+                line.append(' ').append(x.way(from, to, 0)).append('/').append(x.way(from, to, 1));
+            }
+        }
+        int stretches = x.count(0);
+        int houses = x.count(1);
+        for (int s = 0; s < stretches; s++) {
+            int[] of = {x.least(s, 0, 0), x.least(s, 0, 1), x.least(s, 9, 1), x.whose(s, 6), x.odds(s, 20, 50), x.neighbours(s)};
+            line.append(" r ").append(java.util.Arrays.toString(of));
+        }
+        for (int h = 0; h < houses; h++) {
+            line.append(" h ").append(x.worth(h)).append(' ').append(x.road(h)).append(' ').append(x.shares(h, 999));
+            for (int s = 0; s < stretches; s++) {
+                line.append(' ').append(x.haul(h, s)).append('/').append(x.does(h, s, 0)).append('/').append(x.rests(0, h, s, NONE));
+            }
+        }
+        return line.toString();
+    }
+
     public static String status(OwedDays x) {
         StringBuilder line = new StringBuilder();
         for (int what = 0; what < 5; what++) {

@@ -67,8 +67,11 @@ public final class TextBoundsTest extends Checks {
             is("fault of " + n, x.fault(0), NONE);
             is("text of " + n, x.text(0), n);
             is("count of " + n, x.count(0), n);
-            is("the last", x.stretch(n - 1, 4), 3);
-            is("one more", x.stretch(n, 4), NONE);
+            int[] without = {0, 1, 20, 2, 3};
+            for (int what = 0; what < 5; what++) {
+                is("the last, " + what, x.stretch(n - 1, what), without[what]);
+                is("one more, " + what, x.stretch(n, what), NONE);
+            }
         }
         faultIs(0, times("r;", 9) + "r;h", 18);
         faultIs(0, "h;" + times("r;", 9) + "r", 20);
@@ -86,8 +89,11 @@ public final class TextBoundsTest extends Checks {
             is("fault of " + n, x.fault(0), NONE);
             is("text of " + n, x.text(0), 1);
             is("count of " + n, x.count(1), n);
-            is("the last", x.house(n - 1, 2), 5);
-            is("one more throws", thrown(x, n, 2), 1);
+            int[] without = {0, 3, 5, 6, 0};
+            for (int what = 0; what < 5; what++) {
+                is("the last, " + what, x.house(n - 1, what), without[what]);
+                is("one more throws, " + what, thrown(x, n, what), 1);
+            }
         }
         faultIs(0, times("h;", 6) + "h;r", 12);
         faultIs(0, "r;" + times("h;", 6) + "h", 14);
@@ -554,11 +560,14 @@ public final class TextBoundsTest extends Checks {
 
     private static void precedence() {
         about("CONDITION: TRUTHS with |, TRUTH: UNITS with &, UNIT: ! UNIT, ( CONDITION ), SUM = < > SUM");
-        String[] units = {"0=1", "1=1"};
-        for (int a = 0; a < 2; a++) {
-            for (int b = 0; b < 2; b++) {
-                for (int c = 0; c < 2; c++) {
-                    String[] u = {units[a], units[b], units[c]};
+        String[] units = {"0=1", "1=1", "2<1", "1<2", "1>2", "2>1"};
+        for (int i = 0; i < 6; i++) {
+            for (int j = 0; j < 6; j++) {
+                for (int k = 0; k < 6; k++) {
+                    String[] u = {units[i], units[j], units[k]};
+                    int a = i % 2;
+                    int b = j % 2;
+                    int c = k % 2;
                     holdsIf(u[0] + "|" + u[1] + "&" + u[2], (a | b & c) == 1);
                     holdsIf(u[0] + "&" + u[1] + "|" + u[2], (a & b | c) == 1);
                     holdsIf("(" + u[0] + "|" + u[1] + ")&" + u[2], ((a | b) & c) == 1);
