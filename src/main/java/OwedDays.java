@@ -529,9 +529,10 @@ public final class OwedDays {
             return sign >= '0' && sign <= '9';
         }
 
+        /** Reads the bytes themselves: the readers stand so deep that one call more would be too many. */
         int pastBlanks(int from) {
-            int at = from;
-            while (at < length && sign(at) == ' ') {
+            int at = from < 0 ? 0 : from;
+            while (at < length && bytes[at] == ' ') {
                 at++;
             }
             return at;
